@@ -130,6 +130,12 @@ public final class ConflictsTest {
         dueGiven(pausing, 0, 1, 2, 2, 1);
         pausing.changePause(3);
         dueGiven(pausing, 0, 1, 2, 3, 2);
+        RehearsalRoom moving = Some.room(10, 20, 1, 5, 15, 1);
+        dueGiven(moving, 1, 0);
+        moving.move(0, 0, 20);
+        dueGiven(moving, 0, 1);
+        moving.strike(1);
+        dueGiven(moving, 0);
     }
 
     private static void nothingIsChanged() {

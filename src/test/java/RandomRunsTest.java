@@ -82,7 +82,7 @@ public final class RandomRunsTest {
     private void change(String name) {
         int rehearsal = mostlyBelow(Math.max(1, model.rehearsals()));
         int begin = mostlyBelow(96);
-        int end = random.nextInt(30) == 0 ? strange() : Math.min(96, Math.abs(begin % 96) + 1 + random.nextInt(longest));
+        int end = random.nextInt(30) == 0 ? strange() : endBehind(Math.abs(begin % 96));
         int fame = 1 + mostlyBelow(greatestFame);
         switch (name) {
             case "add" -> call(name, begin, end, fame);
@@ -101,7 +101,7 @@ public final class RandomRunsTest {
         int parts = 1 + random.nextInt(5);
         for (int part = 0; part < parts; part++) {
             int begin = random.nextInt(96);
-            int end = random.nextInt(20) == 0 ? 1 + random.nextInt(96) : Math.min(96, begin + 1 + random.nextInt(longest));
+            int end = random.nextInt(20) == 0 ? 1 + random.nextInt(96) : endBehind(begin);
             text.append(part == 0 ? "" : ";").append(begin).append('-').append(end);
             text.append('*').append(1 + random.nextInt(greatestFame));
         }
@@ -117,6 +117,10 @@ public final class RandomRunsTest {
         }
         call("firstError");
         call("read");
+    }
+
+    private int endBehind(int begin) {
+        return Math.min(96, begin + 1 + random.nextInt(longest));
     }
 
     private int mostlyBelow(int bound) {

@@ -215,5 +215,10 @@ public final class RehearsalsTest {
         CHECKS.due("changePause(4)", room.changePause(4), 5);
         room.cancel(1);
         CHECKS.due("changePause(8)", room.changePause(8), 4);
+        RehearsalRoom inOrder = Some.room(5, 15, 2, 20, 30, 1);
+        inOrder.book(0);
+        inOrder.book(1);
+        CHECKS.refusedState(inOrder, "changePause(6), the first is the earlier", () -> inOrder.changePause(6));
+        CHECKS.due("changePause(5)", inOrder.changePause(5), 0);
     }
 }

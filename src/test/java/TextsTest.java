@@ -7,6 +7,7 @@ public final class TextsTest {
         promise10();
         promise11();
         promise12();
+        promise12Again();
         promise12Numbers();
         promise12EveryCharacter();
         promise13();
@@ -82,6 +83,19 @@ public final class TextsTest {
         dueError("8-12*05", 5);
         dueError("0-1*1;0-1*1;0-1*1;0-1*1;0-1*1;0-1*1;0-1*1;0-1*1;0-1*1;0-1*1;", 60);
         dueError("0-1*1;0-1*1;0-1*1;0-1*1;0-1*1;0-1*1;0-1*1;0-1*1;0-1*1;0-1*1?", 59);
+    }
+
+    private static void promise12Again() {
+        RehearsalRoom room = new RehearsalRoom();
+        Some.type(room, "8-12*5;1");
+        CHECKS.due("firstError()", room.firstError(), 8);
+        CHECKS.due("firstError() again", room.firstError(), 8);
+        room.clearBuffer();
+        Some.type(room, "9-10*6");
+        CHECKS.due("firstError() of another text", room.firstError(), 6);
+        CHECKS.due("read() behind firstError()", room.read(), 1);
+        CHECKS.due("firstError() behind read()", room.firstError(), 0);
+        CHECKS.due("beginOf(0)", room.beginOf(0), 9);
     }
 
     private static void promise12Numbers() {
