@@ -648,8 +648,10 @@ public final class RehearsalRoom {
         }
 
         private void finishNumber() {
-            numbers[finished] = value;
-            finished++;
+            if (finished < numbers.length) {
+                numbers[finished] = value;
+                finished++;
+            }
             value = NO_DIGIT_YET;
         }
 

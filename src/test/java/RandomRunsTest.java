@@ -1,4 +1,3 @@
-import java.lang.reflect.InvocationTargetException;
 import java.lang.reflect.Method;
 import java.util.ArrayList;
 import java.util.Arrays;
@@ -137,29 +136,13 @@ public final class RandomRunsTest {
         }
         left--;
         String told = name + Arrays.toString(arguments);
-        String want = answer(model, name, arguments);
-        String got = answer(room, name, arguments);
+        String want = Calls.answer(model, name, arguments);
+        String got = Calls.answer(room, name, arguments);
         run.add(told + " -> " + want);
         checks.dueText(told, got, want);
         if (!got.equals(want)) {
             differs = true;
             System.out.println("behind the calls " + run);
-        }
-    }
-
-    private static String answer(Object object, String name, int[] arguments) {
-        Class<?>[] types = new Class<?>[arguments.length];
-        Object[] values = new Object[arguments.length];
-        for (int place = 0; place < arguments.length; place++) {
-            types[place] = int.class;
-            values[place] = arguments[place];
-        }
-        try {
-            return String.valueOf(object.getClass().getMethod(name, types).invoke(object, values));
-        } catch (InvocationTargetException thrown) {
-            return "throws." + thrown.getCause().getClass().getSimpleName();
-        } catch (ReflectiveOperationException missing) {
-            return "no such method";
         }
     }
 }
